@@ -414,6 +414,13 @@ public final class PromisesTest {
         only(lots, 4, "");
         due.is("heap()", lots.heap(), 16);
 
+        // Nobody gives to 2: only all three together are too many.
+        lots = of(3);
+        lots.may(0, 2, false);
+        due.is("heap()", lots.heap(), 0);
+        lots.may(1, 2, false);
+        due.is("heap()", lots.heap(), 7);
+
         lots = of(8);
         only(lots, 7, "01");
         only(lots, 6, "01");
@@ -600,7 +607,15 @@ public final class PromisesTest {
         due.is("sure(0, 1)", lots.sure(0, 1), NO);
         lots.lay(0, -1);
         due.is("sure(0, 0)", lots.sure(0, 0), STATE);
-        for (int bad : new int[] {-1, 4, LOW, HIGH}) {
+        // By LEAST 3 only 12340 is left, though 1 could give to 0 in two ways else.
+        lots = withHand("1----");
+        only(lots, 1, "02");
+        lots.may(3, 0, false);
+        due.is("sure(0, 1)", lots.sure(0, 1), 0);
+        lots.least(3);
+        due.is("knows(0)", lots.knows(0), 1);
+        due.is("sure(0, 1)", lots.sure(0, 1), 1);
+        for (int bad : new int[] {-1, 5, LOW, HIGH}) {
             due.is("sure(bad, 0)", lots.sure(bad, 0), UNKNOWN);
             due.is("sure(0, bad)", lots.sure(0, bad), UNKNOWN);
         }
