@@ -9,23 +9,31 @@ final class Due {
     }
 
     void is(String call, int got, int want) {
-        asked++;
-        if (got != want) {
-            wrong++;
-            System.out.println(about + ": " + call + " answered " + got + ", due is " + want);
-        }
+        look(got == want, call + " answered " + got + ", due is " + want);
     }
 
-    void holds(String what, boolean so) {
+    void is(String what, String got, String want) {
+        look(got.equals(want), what + " is [" + got + "], due is [" + want + "]");
+    }
+
+    void holds(String otherwise, boolean so) {
+        look(so, otherwise);
+    }
+
+    private void look(boolean so, String otherwise) {
         asked++;
         if (!so) {
             wrong++;
-            System.out.println(about + ": " + what);
+            System.out.println(about + ": " + otherwise);
         }
     }
 
     boolean hasWrong() {
         return wrong != 0;
+    }
+
+    int asked() {
+        return asked;
     }
 
     void end() {

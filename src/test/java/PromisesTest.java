@@ -1,9 +1,5 @@
 /** Each promise by hand-made runs: ordinary inputs, the edges that the document names, wrong inputs. */
-public final class PromisesTest {
-    private static final int NONE = -6, UNKNOWN = -1, OUTSIDE = -2, STATE = -3, NO = -5;
-    private static final int LOW = Integer.MIN_VALUE, HIGH = Integer.MAX_VALUE;
-    /** The numbers of WAYS on a free board, by the number of ONES. */
-    private static final int[] DERANGEMENTS = {1, 0, 1, 2, 9, 44, 265, 1854, 14833};
+public final class PromisesTest extends Given {
     /** The nine WAYS of four ONES on a free board. */
     private static final String[] WAYS_OF_FOUR =
             {"1032", "1230", "1302", "2031", "2301", "2310", "3012", "3201", "3210"};
@@ -40,30 +36,6 @@ public final class PromisesTest {
         due.end();
     }
 
-    private static GiftLots of(int n) {
-        GiftLots lots = new GiftLots();
-        lots.ones(n);
-        return lots;
-    }
-
-    private static GiftLots withHand(String hand) {
-        GiftLots lots = of(hand.length());
-        layAll(lots, hand);
-        return lots;
-    }
-
-    /** A dash stands for a ONE that gives to none. */
-    private static void layAll(GiftLots lots, String hand) {
-        for (int one = 0; one < hand.length(); one++) {
-            lots.lay(one, -1);
-        }
-        for (int one = 0; one < hand.length(); one++) {
-            if (hand.charAt(one) != '-') {
-                due.is("lay(" + one + ", ..)", lots.lay(one, hand.charAt(one) - '0'), NONE);
-            }
-        }
-    }
-
     private static void handIs(GiftLots lots, String hand) {
         for (int one = 0; one < hand.length(); one++) {
             int want = hand.charAt(one) == '-' ? NONE : hand.charAt(one) - '0';
@@ -81,15 +53,6 @@ public final class PromisesTest {
         for (int one = 0; one < mend.length(); one++) {
             int want = one == x ? UNKNOWN : mend.charAt(one) - '0';
             due.is("mend(" + x + ", " + one + ")", lots.mend(x, one), want);
-        }
-    }
-
-    /** The giver may give to just these (their figures). */
-    private static void only(GiftLots lots, int from, String getters) {
-        for (int to = 0; to < lots.told(0); to++) {
-            if (to != from) {
-                lots.may(from, to, getters.indexOf('0' + to) >= 0);
-            }
         }
     }
 
@@ -253,7 +216,7 @@ public final class PromisesTest {
         GiftLots lots = new GiftLots();
         for (int n = 2; n <= 8; n++) {
             lots.ones(n);
-            due.is("ways() of " + n, lots.ways(), DERANGEMENTS[n]);
+            due.is("ways() of " + n, lots.ways(), FREE_WAYS[n]);
         }
         // Of eight: splits into ROUNDS of 8; 4 and 4, 3 and 5; 2 and 6 and more with a two.
         int[] byLeast = {14833, 5040 + 1260 + 2688, 5040 + 1260, 5040, 5040, 5040, 5040};
@@ -282,7 +245,7 @@ public final class PromisesTest {
             lots.ones(n);
             for (int least = 2; least <= 8; least += 3) {
                 lots.least(least);
-                due.is("free() of " + n, lots.free(), DERANGEMENTS[n]);
+                due.is("free() of " + n, lots.free(), FREE_WAYS[n]);
             }
         }
         lots = new GiftLots();
