@@ -162,8 +162,16 @@ public final class TermsEdgeTest extends Given {
         due.is("share(3, -1)", lots.share(3, -1), UNKNOWN);
     }
 
+    static void unknownGoesBeforeStateInKnows(Due due) {
+        due.is("knows(4)", new GiftLots().knows(4), UNKNOWN);
+        due.is("knows(-1)", new GiftLots().knows(-1), UNKNOWN);
+    }
+
     static void unknownGoesBeforeStateInSure(Due due) {
         GiftLots lots = new GiftLots();
+        due.is("sure(4, 0)", lots.sure(4, 0), UNKNOWN);
+        due.is("sure(-1, 0)", lots.sure(-1, 0), UNKNOWN);
+        due.is("sure(4, 4)", lots.sure(4, 4), UNKNOWN);
         due.is("sure(0, 4)", lots.sure(0, 4), UNKNOWN);
         due.is("sure(0, -1)", lots.sure(0, -1), UNKNOWN);
     }
