@@ -580,21 +580,23 @@ public final class GiftLots {
         layMend(0, x, 0, 0);
     }
 
+    /** Leads the trial on from this ONE; so it goes no deeper than there are ONES. */
     private void layMend(int one, int x, int taken, int changed) {
-        if (changed > fewestChanges) {
-            return;
-        }
-        if (!isOne(one)) {
-            judgeMend(x, changed);
-        } else if (one == x) {
-            layMend(one + 1, x, taken, changed);
+        int giver = one == x ? one + 1 : one;
+        if (isOne(giver)) {
+            layGetters(giver, x, taken, changed);
         } else {
-            int open = board[one] & ~taken & ~bit(x);
-            for (int to = 0; to < count; to++) {
-                if ((open & bit(to)) != 0) {
-                    trial[one] = to;
-                    layMend(one + 1, x, taken | bit(to), changed + (hand[one] == to ? 0 : 1));
-                }
+            judgeMend(x, changed);
+        }
+    }
+
+    private void layGetters(int giver, int x, int taken, int changed) {
+        int open = board[giver] & ~taken & ~bit(x);
+        for (int to = 0; to < count; to++) {
+            int sum = changed + (hand[giver] == to ? 0 : 1);
+            if ((open & bit(to)) != 0 && sum <= fewestChanges) {
+                trial[giver] = to;
+                layMend(giver + 1, x, taken | bit(to), sum);
             }
         }
     }

@@ -147,6 +147,16 @@ public final class HandEdgeTest extends Given {
         due.is("told(2)", lots.told(2), 0);
     }
 
+    static void layLeavesTheBoardAndLeast(Due due) {
+        GiftLots lots = withBoard("23", "03", "013", "12");
+        lots.least(3);
+        lots.lay(0, 1);
+        lots.lay(1, 0);
+        lots.lay(0, -1);
+        due.is("the board", board(lots), "23 03 013 12");
+        due.is("told(1)", lots.told(1), 3);
+    }
+
     // ---- promise 15: laid
 
     static void promise15FirstAndLastOne(Due due) {
@@ -245,6 +255,14 @@ public final class HandEdgeTest extends Given {
         due.is("draw(4)", lots.draw(4), NO);
         due.is("draw(3)", lots.draw(3), 1);
         due.is("the hand", hand(lots), "2310");
+    }
+
+    static void drawLeavesTheBoardAndLeast(Due due) {
+        GiftLots lots = withBoard("23", "03", "013", "12");
+        lots.least(3);
+        due.is("draw(0)", lots.draw(0), 1);
+        due.is("the board", board(lots), "23 03 013 12");
+        due.is("told(1)", lots.told(1), 3);
     }
 
     // ---- promise 17: rank

@@ -113,6 +113,59 @@ public final class LastCallTest extends Given {
         due.is("the board", board(after(LAST - 113)), board(of(8)));
     }
 
+    /** The same call again and again, of each kind that then changes nothing more. */
+    static void theSameCallUpToTheLast(Due due) {
+        Map<String, ToIntFunction<GiftLots>> same = new LinkedHashMap<>();
+        same.put("ones(9)", lots -> lots.ones(9));
+        same.put("may(0, 2, true)", lots -> lots.may(0, 2, true));
+        same.put("couple(2, 2)", lots -> lots.couple(2, 2));
+        same.put("least(2)", lots -> lots.least(2));
+        same.put("ways()", lots -> lots.ways());
+        same.put("free()", lots -> lots.free());
+        same.put("way(8, 0)", lots -> lots.way(8, 0));
+        same.put("rounds(2)", lots -> lots.rounds(2));
+        same.put("both(1, 2)", lots -> lots.both(1, 2));
+        same.put("rooks(2)", lots -> lots.rooks(2));
+        same.put("heap()", lots -> lots.heap());
+        same.put("lay(0, 0)", lots -> lots.lay(0, 0));
+        same.put("laid(0)", lots -> lots.laid(0));
+        same.put("draw(0)", lots -> lots.draw(0));
+        same.put("rank()", lots -> lots.rank());
+        same.put("share(0, 1)", lots -> lots.share(0, 1));
+        same.put("knows(0)", lots -> lots.knows(0));
+        same.put("sure(0, 0)", lots -> lots.sure(0, 0));
+        same.put("changes(0)", lots -> lots.changes(0));
+        same.put("mends(0)", lots -> lots.mends(0));
+        same.put("mend(0, 1)", lots -> lots.mend(0, 1));
+        same.put("told(3)", lots -> lots.told(3));
+        same.forEach((call, asks) -> sameUpToTheLast(due, call, asks));
+        // Only the first of these calls bars; all later ones find the pairs barred.
+        barsOnlyAtFirst(due, "couple(0, 1)", 2, lots -> lots.couple(0, 1));
+        barsOnlyAtFirst(due, "bar()", 4, lots -> lots.bar());
+    }
+
+    /** With a hand, and all 512 alone without one. */
+    private static void sameUpToTheLast(Due due, String call, ToIntFunction<GiftLots> asks) {
+        for (int drawn = 0; drawn <= 1; drawn++) {
+            GiftLots lots = new GiftLots();
+            if (drawn == 1) {
+                lots.draw(0);
+            }
+            int want = asks.applyAsInt(lots);
+            for (int number = drawn + 2; number <= LAST; number++) {
+                due.is(call + " as call " + number, asks.applyAsInt(lots), want);
+            }
+        }
+    }
+
+    private static void barsOnlyAtFirst(Due due, String call, int first, ToIntFunction<GiftLots> bars) {
+        GiftLots lots = new GiftLots();
+        lots.draw(0);
+        for (int number = 2; number <= LAST; number++) {
+            due.is(call + " as call " + number, bars.applyAsInt(lots), number == 2 ? first : 0);
+        }
+    }
+
     static void changesOfEachKindUpToTheLast(Due due) {
         GiftLots lots = new GiftLots();
         for (int call = 1; call <= LAST; call++) {

@@ -18,6 +18,65 @@ public final class TermsEdgeTest extends Given {
         Cases.run(TermsEdgeTest.class);
     }
 
+    // ---- the first line
+
+    /** Four ONES of whom 0 and 1 are a couple, worked out by hand: what each part of the first line says. */
+    static void oneStoryFromTheFirstLine(Due due) {
+        GiftLots lots = new GiftLots();
+        lots.couple(0, 1);
+        due.is("some may not: WAYS", ways(lots), "2301 2310 3201 3210");
+        lots.least(3);
+        due.is("no rounds too short: WAYS", ways(lots), "2310 3201");
+        due.is("all ways counted", lots.ways(), 2);
+        due.is("by shares: share(0, 2)", lots.share(0, 2), 1);
+        due.is("by shares: share(0, 3)", lots.share(0, 3), 1);
+        due.is("drawn: draw(1)", lots.draw(1), 1);
+        due.is("numbered in order: rank()", lots.rank(), 1);
+        due.is("who gives to whom", hand(lots), "3201");
+        due.is("what each may know: knows(2)", lots.knows(2), 1);
+        due.is("what each may know of others: sure(2, 3)", lots.sure(2, 3), 1);
+        due.is("barred boards by rooks", rooks(lots), "1 6 11 8 2");
+        due.is("counted by rooks: free()", lots.free(), 24 - 6 * 6 + 11 * 2 - 8 * 1 + 2 * 1);
+        due.is("one falls out: changes(2)", lots.changes(2), NONE);
+        lots.may(1, 0, true);
+        due.is("one falls out: changes(2)", lots.changes(2), 1);
+        due.is("mended by the fewest changes", mend(lots, 2), "30-1");
+        due.is("last time barred: bar()", lots.bar(), 4);
+        due.is("last time barred: WAYS", ways(lots), "2310");
+        lots.may(0, 2, false);
+        due.is("a heap with too few", lots.heap(), 0b1);
+        due.is("all ways counted", lots.ways(), 0);
+    }
+
+    private static String rooks(GiftLots lots) {
+        StringBuilder text = new StringBuilder();
+        for (int k = 0; k <= 4; k++) {
+            text.append(k == 0 ? "" : " ").append(lots.rooks(k));
+        }
+        return text.toString();
+    }
+
+    /** Who goes by the shares comes to each WAY as likely: what is left by each step is what the next divides. */
+    static void drawnAlikeLikelyByShares(Due due) {
+        for (int k = 0; k < 16; k++) {
+            GiftLots lots = of(5);
+            lots.couple(0, 1);
+            lots.couple(2, 3);
+            due.is("ways()", lots.ways(), 16);
+            lots.draw(k);
+            int left = 16;
+            for (int i = 0; i < 5; i++) {
+                int sum = 0;
+                for (int j = 0; j < 5; j++) {
+                    sum += lots.share(i, j);
+                }
+                due.is("all shares of " + i + " towards way " + k, sum, left);
+                left = lots.share(i, lots.laid(i));
+            }
+            due.is("the last share towards way " + k, left, 1);
+        }
+    }
+
     // ---- there is such a ONE, or not
 
     /** Each place of a ONE in each call. */
